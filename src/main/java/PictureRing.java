@@ -379,7 +379,7 @@ public final class PictureRing {
     }
 
     private static boolean isInner(int r, int c) {
-        return within(r, 1, ROWS - 2) && within(c, 1, COLUMNS - 2);
+        return r >= 1 && r <= ROWS - 2 && c >= 1 && c <= COLUMNS - 2;
     }
 
     /** The whole number nearest to above by below, of two the greater; below is above 0. */
@@ -446,7 +446,8 @@ public final class PictureRing {
         }
 
         boolean hasCell(int k, int r, int c) {
-            return hasPicture(k) && r >= 0 && r < ROWS && c >= 0 && c < COLUMNS;
+            return k >= 0 && k < count && k < PICTURES
+                    && r >= 0 && r < ROWS && c >= 0 && c < COLUMNS;
         }
 
         int cellAt(int k, int r, int c) {
