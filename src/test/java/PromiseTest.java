@@ -74,6 +74,31 @@ public final class PromiseTest {
         return x;
     }
 
+    /** As three around, but PICTURE 1 lies one ROW lower: by e 1, by e -1, by e 0. */
+    private static PictureRing sloping() {
+        PictureRing x = flat(10);
+        x.dots(2, 1, 20);
+        x.dots(2, 5, 40);
+        x.dots(2, 9, 58);
+        x.shot(0, 0, 0);
+        x.shot(4, 1, 0);
+        x.shot(8, 0, 0);
+        return x;
+    }
+
+    /** Six PICTURES, two COLUMNS apart; each shares two of six dots with the next. */
+    private static PictureRing sixAround() {
+        PictureRing x = flat(0);
+        x.sets(1, 2);
+        for (int k = 0; k < 6; k++) {
+            x.dots(1, 2 * k, 10 * (k + 1));
+        }
+        for (int k = 0; k < 6; k++) {
+            x.shot(2 * k, 0, 0);
+        }
+        return x;
+    }
+
     /** As many PICTURES of a flat WORLD, all alike and without a CORNER. */
     private static PictureRing blank(int pictures) {
         PictureRing x = flat(0);
@@ -351,6 +376,10 @@ public final class PromiseTest {
         due("e 0, f 4: both, one hit", x.votes(0, 1, 0, 4), 1);
         x.paint(1, 2, 4, 28);
         due("e 0, f 2: two of them", x.votes(0, 1, 0, 2), 2);
+        x.paint(1, 2, 5, 40);
+        due("e 0, f 1", x.votes(0, 1, 0, 1), 1);
+        x.paint(0, 1, 3, 40);
+        due("e -1, f 1", x.votes(0, 1, -1, 1), 1);
         int[][] wrongs = {{0, 0, 0, 1}, {-1, 0, 0, 1}, {0, 2, 0, 1}, {2, 0, 0, 1}, {0, -1, 0, 1},
             {0, 1, -2, 1}, {0, 1, 2, 1}, {0, 1, 0, 0}, {0, 1, 0, 6}};
         for (int[] w : wrongs) {
@@ -413,6 +442,7 @@ public final class PromiseTest {
         due("LINK from 2 to 1", x.link(2, 1, 0), 1);
         due("it is not taken", x.chain(2, 0), NONE);
         moreVotesFirst();
+        waysThatClose();
         int[][] wrongs = {{-1, 0}, {3, 0}, {0, -1}, {0, 2}};
         for (int[] w : wrongs) {
             due("chain(" + w[0] + ", " + w[1] + ")", x.chain(w[0], w[1]), BAD);
@@ -434,6 +464,24 @@ public final class PromiseTest {
         due("of more VOTES, ahead of 2", x.chain(2, 1), 1);
     }
 
+    private static void waysThatClose() {
+        PictureRing x = blank(3);
+        x.paint(0, 1, 5, 40);
+        x.paint(1, 1, 3, 40);
+        x.paint(0, 2, 2, 60);
+        x.paint(1, 2, 4, 60);
+        due("LINK from 1 to 0", x.link(1, 0, 0), 1);
+        due("FOLLOWER of 0", x.chain(0, 0), 1);
+        due("a ring without 2 is not taken", x.chain(1, 0), NONE);
+        x.drops(2);
+        due("a ring of all is", x.chain(1, 0), 0);
+        PictureRing six = sixAround();
+        for (int k = 0; k < 6; k++) {
+            due("FOLLOWER of " + k + " of six", six.chain(k, 0), (k + 1) % 6);
+            due("ahead of " + k + " of six", six.chain(k, 1), (k + 5) % 6);
+        }
+    }
+
     private static void promise14All() {
         promise = 14;
         PictureRing x = threeAround(0, 5, -3);
@@ -453,6 +501,12 @@ public final class PromiseTest {
         for (int what = 0; what < drift.length; what++) {
             due("drift: all(" + what + ")", y.all(what), drift[what]);
         }
+        long[] six = {6, 1, 12, 6, 6, 0};
+        PictureRing s = sixAround();
+        for (int what = 0; what < six.length; what++) {
+            due("six: all(" + what + ")", s.all(what), six[what]);
+        }
+        due("RIGHT, with ROWS", sloping().all(4), 3);
         PictureRing z = blank(1);
         due("one PICTURE is not CLOSED", z.all(1), 0);
         due("one PICTURE follows none", z.all(5), 1);
@@ -496,6 +550,11 @@ public final class PromiseTest {
         due("to the right", y.place(1, 0), 4);
         due("lower", y.place(1, 1), 20);
         due("PICTURE 0", y.place(0, 1), 20);
+        PictureRing s = sloping();
+        due("1 lies lower", s.place(1, 1), 21);
+        due("2 does not", s.place(2, 1), 20);
+        PictureRing six = sixAround();
+        due("the last of six", six.place(5, 0), 10);
     }
 
     // ---- seams and levels
@@ -519,6 +578,13 @@ public final class PromiseTest {
         PictureRing y = drifting();
         due("CELLS by e 1, f 4", y.overlap(0, 0), 12);
         due("CELLS by e 0, f 2", y.overlap(1, 0), 24);
+        PictureRing s = sloping();
+        due("nothing differs", s.overlap(0, 1), 0);
+        s.paint(1, 0, 0, 13);
+        due("CELL 0, 0 lies below 1, 4", s.overlap(0, 1), 3);
+        s.paint(0, 1, 4, 12);
+        due("less by one", s.overlap(0, 3), 1999);
+        due("of the SEAM none", s.overlap(0, 2), 0);
         PictureRing z = blank(1);
         due("no FOLLOWER", z.overlap(0, 0), NO);
         due("no FOLLOWER, wrong too", z.overlap(0, 4), BAD);
@@ -541,6 +607,13 @@ public final class PromiseTest {
             due("bent, ROW " + r, x.seam(0, r), seam[r]);
         }
         due("nothing differs there", x.overlap(0, 2), 0);
+        seamIs(new int[][] {{0, 1, 1, 1}, {3, 3, 3, 0}, {3, 3, 3, 0}, {3, 3, 3, 0}},
+                new int[] {6, 7, 7, 7}, 1);
+        seamIs(new int[][] {{3, 1, 2, 0}, {0, 3, 3, 3}, {0, 3, 3, 3}, {0, 3, 3, 3}},
+                new int[] {5, 4, 4, 4}, 1);
+        // from COLUMN 4 to 6 is too far
+        seamIs(new int[][] {{0, 3, 3, 3}, {3, 3, 0, 3}, {0, 0, 0, 0}, {0, 0, 0, 0}},
+                new int[] {4, 4, 4, 4}, 3);
         PictureRing y = drifting();
         due("no ROW 0 of it", y.seam(0, 0), NONE);
         due("ROW 1 of it", y.seam(0, 1) >= 4 ? 1 : 0, 1);
@@ -552,6 +625,20 @@ public final class PromiseTest {
         PictureRing z = blank(1);
         due("no FOLLOWER", z.seam(0, 0), NO);
         due("no FOLLOWER, wrong too", z.seam(0, 4), BAD);
+    }
+
+    /** The SEAM of PICTURE 0, where its CELLS of the OVERLAP differ by so much. */
+    private static void seamIs(int[][] gaps, int[] seam, int cost) {
+        PictureRing x = threeAround(0, 0, 0);
+        for (int r = 0; r < 4; r++) {
+            for (int c = 4; c < 8; c++) {
+                x.paint(0, r, c, x.value(0, r, c) + gaps[r][c - 4]);
+            }
+        }
+        for (int r = 0; r < 4; r++) {
+            due("SEAM that costs " + cost + ", ROW " + r, x.seam(0, r), seam[r]);
+        }
+        due("the SEAM's cost", x.overlap(0, 2), cost);
     }
 
     private static void promise18Level() {
@@ -619,6 +706,14 @@ public final class PromiseTest {
         PictureRing y = drifting();
         due("no such ROW of its own SEAM", y.shows(0, 0) >> 7, 1);
         due("no such ROW of that of the one AHEAD", y.shows(1, 3) & 1, 1);
+        PictureRing s = sloping();
+        s.paint(0, 1, 4, 13);
+        int[][] shown = {{255, 31, 15, 15}, {14, 15, 15, 255}, {15, 15, 15, 15}};
+        for (int k = 0; k < 3; k++) {
+            for (int r = 0; r < 4; r++) {
+                due("sloping, shows(" + k + ", " + r + ")", s.shows(k, r), shown[k][r]);
+            }
+        }
         PictureRing z = blank(1);
         due("alone", z.shows(0, 3), 255);
         int[][] wrongs = {{-1, 0}, {1, 0}, {0, -1}, {0, 4}};
@@ -708,6 +803,8 @@ public final class PromiseTest {
         due("blanks everywhere", readsOf(x, "  t  9  ;  s 0  0   -0 ;  "), 2);
         due("six figures", readsOf(x, "t000009;"), 1);
         due("STATES", x.told(8), 3);
+        due("40 ORDERS", readsOf(new PictureRing(), "t9;".repeat(40)), 40);
+        due("40 ORDERS, the last stops", readsOf(new PictureRing(), "t9;".repeat(39) + "x0;"), -1039);
         due("back from all of it", x.back(), 2);
         faults(x);
         stops(x);
