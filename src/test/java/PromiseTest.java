@@ -409,11 +409,26 @@ public final class PromiseTest {
         // a second VOTE at e 1, f 3 goes ahead of all
         x.paint(0, 2, 6, 40);
         linkIs(x, 0, 1, 2, 2, 3);
+        everyShift();
         int[][] wrongs = {{0, 0, 0}, {-1, 0, 0}, {0, 2, 0}, {2, 1, 0}, {1, -1, 0}, {0, 1, -1}, {0, 1, 3}};
         for (int[] w : wrongs) {
             due("link of " + java.util.Arrays.toString(w), x.link(w[0], w[1], w[2]), BAD);
         }
         due("told(0)", x.told(0), 7);
+    }
+
+    private static void everyShift() {
+        PictureRing x = blank(2);
+        for (int e = -1; e <= 1; e++) {
+            for (int f = 1; f <= 5; f++) {
+                int r = e == 1 ? 2 : 1;
+                x.paint(0, r, 6, 40);
+                x.paint(1, r - e, 6 - f, 40);
+                linkIs(x, 0, 1, 1, e + 1, f);
+                x.paint(0, r, 6, 0);
+                x.paint(1, r - e, 6 - f, 0);
+            }
+        }
     }
 
     private static void linkIs(PictureRing x, int a, int b, int votes, int e, int f) {
@@ -614,6 +629,10 @@ public final class PromiseTest {
         // from COLUMN 4 to 6 is too far
         seamIs(new int[][] {{0, 3, 3, 3}, {3, 3, 0, 3}, {0, 0, 0, 0}, {0, 0, 0, 0}},
                 new int[] {4, 4, 4, 4}, 3);
+        seamIs(new int[][] {{0, 1, 3, 3}, {3, 3, 0, 3}, {0, 0, 0, 0}, {0, 0, 0, 0}},
+                new int[] {5, 6, 5, 4}, 1);
+        seamIs(new int[][] {{3, 3, 1, 0}, {3, 0, 3, 3}, {0, 0, 0, 0}, {0, 0, 0, 0}},
+                new int[] {6, 5, 4, 4}, 1);
         PictureRing y = drifting();
         due("no ROW 0 of it", y.seam(0, 0), NONE);
         due("ROW 1 of it", y.seam(0, 1) >= 4 ? 1 : 0, 1);
@@ -890,6 +909,17 @@ public final class PromiseTest {
         due("nothing changed, a STATE yet", x.back(), 0);
         x.sets(0, 0);
         due("refused, no STATE", x.back(), NO);
+        PictureRing w = new PictureRing();
+        w.world(8, 32);
+        int first = w.value(NONE, 0, 0);
+        int last = w.value(NONE, 5, 31);
+        w.dots(0, 0, 63 - first);
+        w.dots(5, 31, 63 - last);
+        w.back();
+        due("the last dot is back", w.value(NONE, 5, 31), last);
+        due("the first is not", w.value(NONE, 0, 0), 63 - first);
+        w.back();
+        due("the first dot is back", w.value(NONE, 0, 0), first);
         PictureRing y = threeAround(0, 0, 0);
         y.drops(1);
         y.dots(0, 0, 1);
