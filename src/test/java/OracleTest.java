@@ -11,7 +11,7 @@ import java.util.regex.Pattern;
  * means: every SEAM tried, LEVELS by linear equations, THE TEXT by a regular expression.
  */
 public final class OracleTest {
-    private static final int RUNS = 300, CALLS = 512;
+    private static final int RUNS = 300, CALLS = 512, MOST_TYPED = 250;
 
     private static int wrong = 0;
 
@@ -32,10 +32,10 @@ public final class OracleTest {
         PictureRing x = new PictureRing();
         Model m = new Model();
         List<String> calls = new ArrayList<>();
-        for (int i = 0; i < CALLS; i++) {
+        while (calls.size() < CALLS) {
             if (!agree(draw, x, m, calls)) {
                 wrong++;
-                System.out.println("run " + run + ", call " + i + ": " + calls.get(calls.size() - 1));
+                System.out.println("run " + run + ", call " + calls.size() + ": " + calls.get(calls.size() - 1));
                 return;
             }
         }
@@ -150,7 +150,7 @@ public final class OracleTest {
     }
 
     private static boolean agreeOnText(Random draw, PictureRing x, Model m, List<String> calls) {
-        if (draw.nextInt(4) != 0) {
+        if (draw.nextInt(4) != 0 || calls.size() + MOST_TYPED > CALLS) {
             return same(calls, "reads", x.reads(), m.reads());
         }
         if (!same(calls, "clear", x.clear(), m.clear())) {
