@@ -14,6 +14,7 @@ public final class ChainBoundaryTest {
         followsNoneYet();
         notRoundASmallerWay();
         roundAllOfThem();
+        unlikeOnes();
         chainNone();
         chainNumbers();
         closedFromTwoOn();
@@ -187,6 +188,20 @@ public final class ChainBoundaryTest {
         y.paint(3, 2, 6, 50);
         y.paint(0, 2, 1, 50);
         followersAre("and round all", y, 1, 2, 3, 0);
+    }
+
+    private static void unlikeOnes() {
+        Check.sentence("LINK from a to b (unlike ones)");
+        for (int n = 1; n <= 2; n++) {
+            PictureRing x = Scenes.blank(n);
+            x.paint(0, 1, 2, 40);
+            x.paint(0, 1, 4, 40);
+            x.paint(0, 2, 6, 40);
+            followersAre("one that is like itself, of " + n, x, n == 1 ? new int[] {NONE} : new int[] {NONE, NONE});
+            allIs("one that is like itself, of " + n, x, 0, 0, 0, 6, 0, n);
+            Check.due("it has no FOLLOWER", x.seam(0, 0), NO);
+            Check.due("it SHOWS all", x.shows(0, 1), 255);
+        }
     }
 
     private static void chainNone() {

@@ -122,4 +122,33 @@ final class Scenes {
         all[n++] = x.level(k, 1);
         return n;
     }
+
+    /** All that follows from the PICTURES, T and A; it asks nothing that is refused. */
+    static long[] derivedOf(PictureRing x) {
+        long[] all = new long[200];
+        int n = 0;
+        for (int what = 0; what <= 5; what++) {
+            all[n++] = x.all(what);
+        }
+        all[n++] = x.rest(0);
+        all[n++] = x.rest(1);
+        int pictures = x.told(5);
+        boolean closed = all[1] == 1;
+        for (int k = 0; k < pictures; k++) {
+            all[n++] = x.corners(k);
+            all[n++] = x.chain(k, 0);
+            boolean followed = all[n - 1] != PictureRing.NONE;
+            all[n++] = x.chain(k, 1);
+            for (int what = 0; what <= 1; what++) {
+                all[n++] = x.level(k, what);
+                all[n++] = closed ? x.place(k, what) : 0;
+            }
+            for (int r = 0; r < ROWS; r++) {
+                all[n++] = x.shows(k, r);
+                all[n++] = followed ? x.seam(k, r) : 0;
+                all[n++] = followed ? x.overlap(k, r) : 0;
+            }
+        }
+        return java.util.Arrays.copyOf(all, n);
+    }
 }

@@ -33,6 +33,7 @@ public final class SeamBoundaryTest {
         seenHalves();
         seenClosed();
         seenNumbers();
+        lastOfSix();
         Check.end();
     }
 
@@ -213,10 +214,41 @@ public final class SeamBoundaryTest {
         PictureRing left = gaps(0, 4, new int[][] {{3, 3, 3, 0}, {3, 0, 2, 3}, {3, 0, 3, 3}, {3, 0, 3, 3}});
         seamIs("2 to the left is too far", left, 0, 7, 6, 5, 5);
         Check.due("at the SEAM", left.overlap(0, 2), 2);
+        stepsOfTwo();
         seamIs("back and forth", gaps(0, 4, new int[][] {{3, 0, 3, 3}, {0, 3, 3, 3}, {3, 0, 3, 3}, {3, 3, 0, 3}}),
                 0, 5, 4, 5, 6);
         seamIs("none", gaps(1, 5, new int[][] {{3, 3, 0}, {3, 3, 0}, {3, 3, 0}}), 0, NONE, 7, 7, 7);
         seamIs("not left of f", gaps(-1, 5, new int[][] {{0, 3, 3}, {3, 3, 3}, {0, 3, 3}}), 0, 5, 5, 5, NONE);
+    }
+
+    /** A way 1 away each costs 1; a step of 2 in one ROW would cost nothing. */
+    private static void stepsOfTwo() {
+        for (int f = 1; f <= 4; f++) {
+            for (int row = 0; row < 3; row++) {
+                for (int to = f; to <= 5; to++) {
+                    twoAway(f, row, to, to + 2);
+                    twoAway(f, row, to + 2, to);
+                }
+            }
+        }
+    }
+
+    /** Up to the ROW one COLUMN is alike, below it one that is 2 away; 1 aside of both differs by 3. */
+    private static void twoAway(int f, int row, int above, int below) {
+        int[][] gaps = new int[4][8 - f];
+        for (int r = 0; r < 4; r++) {
+            java.util.Arrays.fill(gaps[r], 3);
+            gaps[r][(r <= row ? above : below) - f] = 0;
+        }
+        // the way below all along costs 1 in the first ROWS together
+        gaps[0][below - f] = 1;
+        for (int r = 1; r <= row; r++) {
+            gaps[r][below - f] = 0;
+        }
+        PictureRing x = gaps(0, f, gaps);
+        String of = "from " + above + " to " + below + " below ROW " + row + ", f " + f;
+        seamIs(of, x, 0, below, below, below, below);
+        Check.due(of + ": at the SEAM", x.overlap(0, 2), 1);
     }
 
     private static void seamOfLikeOnes() {
@@ -465,6 +497,13 @@ public final class SeamBoundaryTest {
         Check.due("by -1: ROW 0 of the SEAM", higher.shows(1, 1), bits(2, 7));
         Check.due("by -1: no ROW -1", higher.shows(1, 0), 255);
         Check.due("none AHEAD", pair(0, 1).shows(0, 0), 1);
+        // the ROW that the SEAM does not have is not one of the PICTURE's own SEAM either
+        PictureRing x = Scenes.ring(new int[] {1, 4}, new int[] {0, 5}, new int[] {-1, 3});
+        Check.due("by 1: its own SEAM has ROW 0", x.seam(1, 0), 5);
+        Check.due("by 1: from 0 on", x.shows(1, 3), 31);
+        Check.due("by -1: the SEAM ahead has ROW 2", x.seam(2, 2), 3);
+        Check.due("by -1: from 0 on", x.shows(0, 0), 255);
+        Check.due("by -1: from 0 on by the SEAM, too", x.shows(0, 1), 15);
     }
 
     private static void showsNothing() {
@@ -549,5 +588,43 @@ public final class SeamBoundaryTest {
         }
         Check.due("told(0)", x.told(0), wrong.length);
         Check.due("the last CELL", x.seen(1, 3, 7), 0);
+    }
+
+    // ---- all of them
+
+    private static void lastOfSix() {
+        Check.sentence("PICTURES 0 .. 5: the last one, and the one that follows it, by e 1");
+        PictureRing x = Scenes.ring(new int[] {0, 4}, new int[] {0, 4}, new int[] {0, 4}, new int[] {0, 4},
+                new int[] {0, 4}, new int[] {1, 4});
+        x.sets(1, 5);
+        int[][] gaps = {{1, 0, 0, 3}, {3, 2, 3, 3}, {1, 0, 0, 0}};
+        for (int n = 0; n < 12; n++) {
+            raise(x, 5, 1 + n / 4, 4 + n % 4, gaps[n / 4][n % 4]);
+        }
+        Check.due("corners(5)", x.corners(5), 1 << 1 | 1 << 11);
+        Check.due("chain(5, 0)", x.chain(5, 0), 0);
+        Check.due("chain(0, 1)", x.chain(0, 1), 5);
+        Check.due("chain(5, 1)", x.chain(5, 1), 4);
+        Check.due("link(5, 0, 1)", x.link(5, 0, 1), 2);
+        Check.due("place(5, 0)", x.place(5, 0), 20);
+        Check.due("place(5, 1)", x.place(5, 1), 19);
+        int[] overlap = {12, 16, 2, 2016};
+        for (int what = 0; what <= 3; what++) {
+            Check.due("overlap(5, " + what + ")", x.overlap(5, what), overlap[what]);
+        }
+        seamIs("six", x, 5, NONE, 5, 5, 5);
+        for (int k = 1; k <= 5; k++) {
+            levelIs("six", x, k, -4 * k, 19);
+        }
+        restIs("six", x, 256, 57);
+        int[] last = {255, 31, 31, 31};
+        int[] first = {14, 14, 14, 15};
+        for (int r = 0; r < 4; r++) {
+            Check.due("shows(5, " + r + ")", x.shows(5, r), last[r]);
+            Check.due("shows(0, " + r + ")", x.shows(0, r), first[r]);
+        }
+        Check.due("seen(5, 1, 2), 50 less 20 by 19", x.seen(5, 1, 2), 49);
+        Check.due("seen(5, 2, 6), 63 less 20 by 19", x.seen(5, 2, 6), 62);
+        Check.due("seen(5, 0, 0), 0 less 20 by 19", x.seen(5, 0, 0), 0);
     }
 }

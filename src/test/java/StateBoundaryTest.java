@@ -1,5 +1,6 @@
 import java.util.ArrayList;
 import java.util.List;
+import java.util.function.Supplier;
 import java.util.function.ToLongFunction;
 
 /** The boundary cases of promises 26 to 28, of STATES and of refused calls; and of 512 calls. */
@@ -14,11 +15,13 @@ public final class StateBoundaryTest {
         backNone();
         backFiveAtMost();
         backAndForth();
+        backBehindRefused();
         stateByEachCallToldS();
         stateByNoOtherCall();
         stateByNoRefusedCall();
         backToEachPart();
         backLeavesTheRest();
+        answersFollowChanges();
         toldNumbers();
         toldCounts();
         toldLeastAndMost();
@@ -89,6 +92,27 @@ public final class StateBoundaryTest {
             Check.due("T", x.told(6), before[n]);
         }
         Check.due("back()", x.back(), NO);
+    }
+
+    private static void backBehindRefused() {
+        Check.sentence("Refused, changing nothing but how often: STATES stay, too");
+        for (int n = 1; n <= 8; n++) {
+            PictureRing x = new PictureRing();
+            for (int t = 1; t <= n; t++) {
+                x.sets(0, 50 + t);
+            }
+            x.sets(0, 0);
+            x.world(0, 11);
+            x.drops(0);
+            Scenes.readsOf(x, "t1;t0;");
+            Scenes.readsOf(x, "t");
+            for (int left = Math.min(5, n) - 1; left >= 0; left--) {
+                Check.due(n + " calls: back()", x.back(), left);
+                int t = n - (Math.min(5, n) - left);
+                Check.due(n + " calls, " + left + " left: T", x.told(6), t == 0 ? 8 : 50 + t);
+                x.sets(1, 64);
+            }
+        }
     }
 
     private static void stateByEachCallToldS() {
@@ -243,6 +267,70 @@ public final class StateBoundaryTest {
         Check.due("told(0)", x.told(0), 2);
         Check.due("KIND", x.why(0), 2);
         Check.due("ORDER", x.why(1), 1);
+    }
+
+    private static void answersFollowChanges() {
+        Check.sentence("each call told S leaves a STATE to go back to: what is asked before, behind it, and behind back");
+        List<Supplier<PictureRing>> scenes = new ArrayList<>();
+        scenes.add(StateBoundaryTest::ring);
+        scenes.add(StateBoundaryTest::row);
+        scenes.add(StateBoundaryTest::fullRing);
+        scenes.add(() -> Scenes.ring(new int[] {1, 1}, new int[] {0, 5}));
+        scenes.add(() -> Scenes.join(Scenes.blank(5), new int[] {0, 2, 1}, new int[][] {{-1, 4}, {-1, 3}, {0, 5}}));
+        scenes.add(StateBoundaryTest::ringBehindFourth);
+        List<ToLongFunction<PictureRing>> calls = new ArrayList<>();
+        calls.add(o -> o.world(0, 32));
+        calls.add(o -> o.dots(1, 1, 63));
+        calls.add(o -> o.shot(0, 0, 20));
+        calls.add(o -> o.paint(0, 1, 6, 0));
+        calls.add(o -> o.paint(0, 2, 6, 0));
+        calls.add(o -> o.paint(1, 0, 0, 5));
+        calls.add(o -> o.paint(1, 1, 6, 0));
+        calls.add(o -> o.drops(0));
+        calls.add(o -> o.drops(1));
+        calls.add(o -> o.drops(o.told(5) - 1));
+        calls.add(o -> o.sets(0, 126));
+        calls.add(o -> o.sets(0, 1));
+        calls.add(o -> o.sets(0, 41));
+        calls.add(o -> o.sets(1, 63));
+        calls.add(o -> Scenes.readsOf(o, "x0;x0;"));
+        calls.add(o -> Scenes.readsOf(o, "p0 1 6 0;p1 0 7 3;"));
+        calls.add(o -> Scenes.readsOf(o, "x0;t0;"));
+        PictureRing behind = ringBehindFourth();
+        Check.due("FOLLOWER of the fourth", behind.chain(3, 0), 0);
+        Check.due("its SEAM differs", behind.overlap(3, 2), 3);
+        behind.drops(3);
+        Check.due("a ring without it", behind.all(1), 1);
+        for (int i = 0; i < scenes.size() * calls.size(); i++) {
+            askedAgain("scene and call " + i, scenes.get(i % scenes.size()), calls.get(i / scenes.size()));
+        }
+    }
+
+    /** Three that would be a ring, but a fourth has more VOTES for the first; all differ at their SEAMS. */
+    private static PictureRing ringBehindFourth() {
+        PictureRing x = Scenes.join(Scenes.blank(4), Scenes.counting(3), new int[][] {{0, 4}, {1, 4}, {1, 4}});
+        Scenes.mark(x, 3, 0, 0, 5, 50);
+        x.paint(3, 2, 6, 60);
+        x.paint(0, 2, 1, 60);
+        for (int k = 0; k < 4; k++) {
+            for (int c = 3; c < 8; c++) {
+                x.paint(k, 3, c, 3);
+            }
+        }
+        return x;
+    }
+
+    private static void askedAgain(String of, Supplier<PictureRing> scene, ToLongFunction<PictureRing> call) {
+        PictureRing x = scene.get();
+        PictureRing fresh = scene.get();
+        long[] before = Scenes.derivedOf(x);
+        long answer = call.applyAsLong(x);
+        Check.due(of, call.applyAsLong(fresh), answer);
+        Check.same(of + ", asked behind it", Scenes.derivedOf(x), Scenes.derivedOf(fresh));
+        if (answer >= 0) {
+            x.back();
+        }
+        Check.same(of + ", asked behind back", Scenes.derivedOf(x), before);
     }
 
     // ---- promise 27
@@ -454,7 +542,7 @@ public final class StateBoundaryTest {
         return all;
     }
 
-    private static void changesNothing(String of, java.util.function.Supplier<PictureRing> scene, List<Refused> calls) {
+    private static void changesNothing(String of, Supplier<PictureRing> scene, List<Refused> calls) {
         long[] before = Scenes.seenOf(scene.get());
         for (Refused r : calls) {
             PictureRing x = scene.get();
