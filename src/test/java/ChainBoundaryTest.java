@@ -14,6 +14,7 @@ public final class ChainBoundaryTest {
         followsNoneYet();
         notRoundASmallerWay();
         roundAllOfThem();
+        notTakenLater();
         unlikeOnes();
         chainNone();
         chainNumbers();
@@ -188,6 +189,27 @@ public final class ChainBoundaryTest {
         y.paint(3, 2, 6, 50);
         y.paint(0, 2, 1, 50);
         followersAre("and round all", y, 1, 2, 3, 0);
+    }
+
+    private static void notTakenLater() {
+        Check.sentence("(one that is not taken then is not taken later)");
+        PictureRing x = exact(3);
+        vote(x, 0, 1, 4, 3, 20);
+        vote(x, 1, 0, 4, 2, 40);
+        followersAre("1 has none, and may not lead back yet", x, 1, NONE, NONE);
+        x.paint(1, 1, 4, 50);
+        x.paint(2, 1, 2, 50);
+        Check.due("LINK from 1 to 2", x.link(1, 2, 0), 1);
+        followersAre("of fewer VOTES, to one that lay aside", x, 1, 2, NONE);
+        x.paint(2, 2, 6, 60);
+        x.paint(0, 2, 4, 60);
+        Check.due("LINK from 2 to 0", x.link(2, 0, 0), 1);
+        Check.due("LINK from 1 to 0 is there yet", x.link(1, 0, 0), 2);
+        followersAre("the last one goes round all", x, 1, 2, 0);
+        allIs("the last one goes round all", x, 3, 1, 8, 6, 0, 0);
+        x.drops(2);
+        followersAre("without 2 it is taken", x, 1, 0);
+        allIs("without 2 it is taken", x, 2, 1, 8, 6, 0, 0);
     }
 
     private static void unlikeOnes() {

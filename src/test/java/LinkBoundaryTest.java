@@ -10,10 +10,12 @@ public final class LinkBoundaryTest {
         changeOfEachPair();
         changeAddsBothWays();
         changeLeastAndMost();
+        changeOfEachPicture();
         cornersBits();
         cornersAtT();
         cornersNumbers();
         votesAtA();
+        votesFarthestApart();
         votesOfCornersAlone();
         votesAtTheEdge();
         votesCounted();
@@ -108,6 +110,22 @@ public final class LinkBoundaryTest {
         Check.due("0 among 63", x.change(0, 1, 1), 126);
     }
 
+    private static void changeOfEachPicture() {
+        Check.sentence("CHANGE of an INNER CELL (of the PICTURE that is told, the last one, too)");
+        PictureRing x = Scenes.blank(6);
+        for (int k = 0; k < 6; k++) {
+            x.paint(k, 1, 1, 10 + k);
+            x.paint(k, 2, 6, 30 + k);
+        }
+        for (int k = 0; k < 6; k++) {
+            Check.due("change(" + k + ", 1, 1)", x.change(k, 1, 1), 2 * (10 + k));
+            Check.due("change(" + k + ", 2, 6)", x.change(k, 2, 6), 2 * (30 + k));
+        }
+        x.drops(0);
+        Check.due("change(4, 1, 1), one nearer", x.change(4, 1, 1), 30);
+        Check.due("change(5, 1, 1), gone", x.change(5, 1, 1), BAD);
+    }
+
     // ---- promise 10
 
     private static void cornersBits() {
@@ -193,6 +211,22 @@ public final class LinkBoundaryTest {
             x.paint(0, 1, 5, n[0]);
             x.paint(1, 1, 2, n[1]);
             Check.due("VALUES " + n[0] + ", " + n[1] + " by A " + n[2], x.votes(0, 1, 0, 3), n[3]);
+        }
+    }
+
+    private static void votesFarthestApart() {
+        Check.sentence("A (0 .. 63): VALUES are 63 apart at most");
+        for (int way = 0; way < 2; way++) {
+            PictureRing x = Scenes.blank(2);
+            x.paint(way, 1, way == 0 ? 5 : 2, 63);
+            // a CORNER of VALUE 0 among 63
+            for (int n = 0; n < 9; n++) {
+                x.paint(1 - way, n / 3, (way == 0 ? 1 : 4) + n % 3, n == 4 ? 0 : 63);
+            }
+            x.sets(1, 62);
+            Check.due("way " + way + ", A 62", x.votes(0, 1, 0, 3), 0);
+            x.sets(1, 63);
+            Check.due("way " + way + ", A 63", x.votes(0, 1, 0, 3), 1);
         }
     }
 

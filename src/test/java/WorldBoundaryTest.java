@@ -26,6 +26,7 @@ public final class WorldBoundaryTest {
         dropsNumbers();
         dropsNearer();
         dropsTakeTheShotAlong();
+        dropsTakeEachShotAlong();
         setsNumbers();
         setsBefore();
         valueOfWorld();
@@ -429,6 +430,52 @@ public final class WorldBoundaryTest {
             x.shot(6, 2, 0);
             Scenes.mark(x, 0, 1, 1, 4, 50);
             Check.due("RIGHT by those of the one that was second", x.all(4), 1);
+        }
+    }
+
+    private static void dropsTakeEachShotAlong() {
+        Check.sentence("x, y, P are kept of it as told (whichever goes, and whichever are one nearer)");
+        for (int gone = 0; gone < 6; gone++) {
+            for (int n = 0; n < 36; n++) {
+                int a = n / 6;
+                int b = n % 6;
+                if (a < b && a != gone && b != gone) {
+                    PictureRing x = twoOfSix(a, b);
+                    x.drops(gone);
+                    brightest(x, a < gone ? a : a - 1, 2, 6);
+                    brightest(x, b < gone ? b : b - 1, 1, 2);
+                    rightOne(gone + " gone, from " + a + " to " + b, x);
+                    PictureRing y = twoOfSix(a, b);
+                    y.drops(gone);
+                    y.back();
+                    brightest(y, a, 2, 6);
+                    brightest(y, b, 1, 2);
+                    rightOne(gone + " taken back, from " + a + " to " + b, y);
+                }
+            }
+        }
+    }
+
+    private static void rightOne(String of, PictureRing x) {
+        Check.due(of + ": the LINK is taken", x.all(0), 1);
+        Check.due(of + ": RIGHT", x.all(4), 1);
+    }
+
+    /** Six PICTURES, of which two alone were shot 1 ROW and 4 COLUMNS apart, in a P of their own. */
+    private static PictureRing twoOfSix(int a, int b) {
+        PictureRing x = new PictureRing();
+        x.sets(0, 126);
+        for (int k = 0; k < 6; k++) {
+            x.world(k, k == a || k == b ? 14 : 20 + k);
+            x.shot(k == a ? 12 : k == b ? 2 : 5 + k, k == a ? 0 : k == b ? 1 : 2, 0);
+        }
+        return x;
+    }
+
+    /** A CELL of 63 among 0: a CORNER by T 126, as no drawn VALUES make one. */
+    private static void brightest(PictureRing x, int k, int r, int c) {
+        for (int n = 0; n < 9; n++) {
+            x.paint(k, r - 1 + n / 3, c - 1 + n % 3, n == 4 ? 63 : 0);
         }
     }
 
